@@ -6,7 +6,7 @@ public final class FaultTest {
     }
 
     public static void main(String[] args) {
-        int texts = args.length > 0 ? Integer.parseInt(args[0]) : 6000;
+        int texts = args.length > 0 ? Integer.parseInt(args[0]) : 1200;
         Random dice = new Random(4);
         RandomTexts random = new RandomTexts(dice);
         UnsoldPrice x = new UnsoldPrice();
