@@ -182,6 +182,8 @@ public final class PromisesTest {
         due("161 are too many", full.feed(0, 0x2020, 0, 0, 0), NONE);
         due("refused, it stays", full.count(3), 159);
         due("160", full.feed(0, 0, 0, 0, 0x20), 160);
+        due("blanks alone", full.fault(0), 160);
+        due("blanks alone", full.fault(1), 160);
         due("full", full.feed(0, 0, 1, 0, 0), NONE);
         due("full", full.feed(0, 0, 0, 1, 0), NONE);
         due("full", full.feed(1, 0, 0, 0, 0), NONE);
