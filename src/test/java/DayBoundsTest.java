@@ -29,6 +29,7 @@ public final class DayBoundsTest {
         drawBelowRisk();
         drawsGoRound();
         noDrawWithoutRisk();
+        drawsOfTheNextMarket();
         yesterdayBeforeTheFirst();
         thirtyDays();
         Check.finish();
@@ -419,6 +420,22 @@ public final class DayBoundsTest {
             draw = nextDraw(draw);
             sure.days(1);
             Check.due("days of risk 100 draw, too", sure.buyers(0, 3), ofHundred(draw) < 50 ? 2 : 1);
+        }
+    }
+
+    /** Another market has the risk and goes on with the draws, a seed told ahead of any, too. */
+    private static void drawsOfTheNextMarket() {
+        UnsoldPrice x = new UnsoldPrice();
+        Check.due("risk without a market", x.risk(50), true);
+        Check.due("seed without a market", x.seed(12L), true);
+        BigInteger draw = BigInteger.valueOf(12);
+        for (int market = 0; market < 8; market++) {
+            Check.due("a market", Check.market(x, "sn0;bv9m1w1;lf5"), 1);
+            for (int k = 0; k < 5; k++) {
+                draw = nextDraw(draw);
+                x.days(1);
+                Check.due("draws go on", x.buyers(0, 3), ofHundred(draw) < 50 ? 2 : 1);
+            }
         }
     }
 

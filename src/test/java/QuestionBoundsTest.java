@@ -28,6 +28,7 @@ public final class QuestionBoundsTest {
         monthOfDays();
         monthOfSellers();
         monthOfWhoHolds();
+        monthOfWhoIsNotTold();
         turnsModuloSellers();
         bribeOfWhoDoNotHold();
         spreadOfDays();
@@ -40,6 +41,7 @@ public final class QuestionBoundsTest {
         imageOfThisMarket();
         countWithoutMarket();
         tapeOf160();
+        callsUpTo512();
         Check.finish();
     }
 
@@ -451,6 +453,23 @@ public final class QuestionBoundsTest {
         Check.due("sold at 4: free, 5 is lawful", x.month(2, 0), NONE);
     }
 
+    /** Who is not told for a day asks by its rule on that day, or the board. */
+    private static void monthOfWhoIsNotTold() {
+        UnsoldPrice x = open("sn1c0;sn9c0;bv20m1;lf9", "y:3", "y:p-2");
+        // The first sells at 3; the second is left with its goods: 7, 5, 3.
+        x.ask(0, 3, 8);
+        Check.due("by rules the board is 3 on the fourth day", x.month(4, 0), 3);
+        x.ask(0, 3, 3);
+        Check.due("3 is lawful", x.month(4, 0), NONE);
+        x.ask(0, 3, 4);
+        Check.due("4 is not", x.month(4, 0), 3);
+        x.ask(1, 1, 7);
+        Check.due("told on the second day: 7, 7, 5, so 4 is lawful", x.month(4, 0), NONE);
+        UnsoldPrice none = open("sn1c0;sn9c0;bv20m1;lf9");
+        none.ask(0, 1, 9);
+        Check.due("without a rule the board", none.month(2, 0), NONE);
+    }
+
     private static void turnsModuloSellers() {
         for (int sellers = 1; sellers <= 5; sellers++) {
             UnsoldPrice x = open("sn1c0r9;".repeat(sellers) + "bv9m9;lf9");
@@ -702,5 +721,20 @@ public final class QuestionBoundsTest {
         for (int k = 0; k < 20; k++) {
             Check.due("bytes of 0 are left out", zeros.feed(0, 0, 0, 0, 0), 0);
         }
+    }
+
+    /** All of an object's calls answer alike, the last one, too. */
+    private static void callsUpTo512() {
+        UnsoldPrice x = new UnsoldPrice();
+        Check.tape(x, "y:1+2*3-[p/4]=5|g<6&!u>w?c+d-7;y:p-1;y:[[[[[[[");
+        for (int k = 0; k < 500; k++) {
+            Check.due("the fault of a rule once more", x.fault(1), 45);
+        }
+        UnsoldPrice free = open("sn0;lf20;b", "y:d/1000");
+        for (int k = 1; k <= 501; k++) {
+            free.days(30);
+        }
+        Check.due("d of day 15029", free.seller(0, 8), 15);
+        Check.due("the day", free.count(4), 15030);
     }
 }

@@ -276,7 +276,7 @@ public final class RefusedTest {
         row("rule none's seller", 0, 4, FALSE, (x, v) -> one(x.rule(v, NONE)),
                 (y, v) -> one(y.rule(v, NONE)));
         row("rule", NONE, 2, FALSE, (x, v) -> one(x.rule(0, v)), (y, v) -> one(y.rule(0, v)));
-        // The second holds, the others do not.
+        // The second holds, the others do not; those behind it are one row of numbers.
         row("hold", 2, 4, FALSE, (x, v) -> one(v != 0 && x.hold(v, true)),
                 (y, v) -> one(v != 0 && y.hold(v, true)));
         row("hold no more", 1, 1, FALSE, (x, v) -> one(x.hold(v, false)),
@@ -305,8 +305,7 @@ public final class RefusedTest {
     private void bestAndFool() {
         row("best", 0, 4, HIDDEN, (x, v) -> x.best(v, 1, 0), (y, v) -> y.best(v, 1, 0));
         row("best gain", 0, 4, HIDDEN, (x, v) -> x.best(v, 1, 1), (y, v) -> y.best(v, 1, 1));
-        row("best of days", 1, 2, HIDDEN, (x, v) -> v == 3 ? HIDDEN : x.best(2, v, 0),
-                (y, v) -> v == 3 ? HIDDEN : y.best(2, v, 0));
+        row("best of days", 1, 3, HIDDEN, (x, v) -> x.best(2, v, 0), (y, v) -> y.best(2, v, 0));
         row("best's what", 0, 1, HIDDEN, (x, v) -> x.best(0, 1, v), (y, v) -> y.best(0, 1, v));
         row("fool", 0, 4, HIDDEN, (x, v) -> x.fool(v, 3, 0), (y, v) -> y.fool(v, 3, 0));
         row("fool's worth", 0, 4, HIDDEN, (x, v) -> x.fool(v, 3, 1), (y, v) -> y.fool(v, 3, 1));

@@ -23,6 +23,7 @@ public final class TextBoundsTest {
         lettersOfOtherClauses();
         numbersOfItems();
         threeDigits();
+        digitsAlone();
         itemsNotTold();
         blanks();
         onlyThirtyTwoIsBlank();
@@ -257,6 +258,32 @@ public final class TextBoundsTest {
             fault(0, head + "999", head.length() + 2);
             fault(0, head + "0000", head.length() + 2);
             fault(0, head + "1 1", head.length() + 2);
+        }
+    }
+
+    /** Only 0 to 9 are digits: each other sign in a number's place, and behind a digit. */
+    private static void digitsAlone() {
+        for (int sign = 1; sign < 256; sign++) {
+            char c = (char) sign;
+            boolean digit = "0123456789".indexOf(sign) >= 0;
+            if (!digit && c != ' ') {
+                fault(0, "b;sn" + c, 4);
+                fault(0, "b;sc" + c + "1", 4);
+                fault(1, "y:" + c + "9", "!([".indexOf(c) >= 0 ? 4 : "pgcduw".indexOf(c) >= 0 ? 3 : 2);
+            }
+            if (!digit && " ;cr".indexOf(c) < 0) {
+                fault(0, "b;sn1" + c, 5);
+                fault(0, "b;sn1" + c + "1", 5);
+            }
+            if (!digit && " ;+-*/=<>".indexOf(c) < 0) {
+                fault(1, "y:1" + c, 3);
+                fault(1, "y:1" + c + "1", 3);
+                fault(1, "y:123" + c + "1", 5);
+            }
+            if (digit) {
+                fault(0, "b;sn" + c, NONE);
+                fault(1, "y:" + c, NONE);
+            }
         }
     }
 
