@@ -85,6 +85,10 @@ public final class TextBoundsTest {
         fault(0, many("s;", 5) + many("b;", 6) + "l", NONE);
         fault(0, many("s;", 5) + many("b;", 6) + "l;b", 24);
         fault(0, many("s;", 5) + many("b;", 6) + "l;s", 24);
+        // With all clauses there are, the one too many is wrong, not the sign ahead of it.
+        fault(0, many("s;", 5) + many("b;", 6) + "l;l", 24);
+        fault(0, many("s;", 5) + many("b;", 6) + "l;", 24);
+        fault(0, many("s;", 5) + many("b;", 6) + "l; ", 25);
     }
 
     private static void oneLawAtMost() {
